@@ -720,7 +720,13 @@ public final class BentShares {
             plan.clear();
             takeToken();
             for (int step = 0; step <= end && kind != END; step++) {
-                int code = readClause();
+                int code = CANT_STAND;
+                if (kind == CLASS_WORD) {
+                    code = readClass();
+                    code = code == FINE ? readCurves((plan.classes - 1) * CURVES) : code;
+                } else if (kind == FLOW_WORD) {
+                    code = readFlow();
+                }
                 if (code != FINE) {
                     return code;
                 }
@@ -729,13 +735,7 @@ public final class BentShares {
             return FINE;
         }
 
-        private int readClause() {
-            if (kind == CLASS_WORD) {
-                return readClass();
-            }
-            return kind == FLOW_WORD ? readFlow() : CANT_STAND;
-        }
-
+        /** As far as its curves, the first word of these (or what stands there) taken. */
         private int readClass() {
             if (plan.classes >= MOST_CLASSES) {
                 return TOO_MUCH;
@@ -754,7 +754,7 @@ public final class BentShares {
                 takeToken();
             }
             plan.addClass(in);
-            return readCurves((plan.classes - 1) * CURVES);
+            return FINE;
         }
 
         private int readCurves(int firstSlot) {
