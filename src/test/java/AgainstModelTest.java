@@ -16,10 +16,14 @@ public final class AgainstModelTest {
     private final BentShares mine = new BentShares();
     private final PlainModel plain = new PlainModel();
     private final List<String> calls = new ArrayList<>();
+    // In some runs nothing is taken back, so that much is laid and the time comes near its end.
+    private final boolean onward;
     private boolean broken = false;
 
     private AgainstModelTest(long seed) {
-        random = new Random(seed);
+        // Seeds that are near one another begin alike.
+        random = new Random(seed * 0x9E3779B97F4A7C15L);
+        onward = random.nextInt(4) == 0;
     }
 
     public static void main(String[] args) {
@@ -47,7 +51,7 @@ public final class AgainstModelTest {
         if (random.nextInt(20) > 0) {
             tell(text());
         }
-        int many = 40 + random.nextInt(200);
+        int many = onward ? 500 : 40 + random.nextInt(200);
         for (int i = 0; i < many && calls.size() < 500 && !broken; i++) {
             int which = random.nextInt(100);
             if (which < 50) {
@@ -58,7 +62,7 @@ public final class AgainstModelTest {
                 lookAhead();
             } else if (which < 98) {
                 dear();
-            } else if (random.nextInt(12) == 0) {
+            } else if (random.nextInt(12) == 0 && !onward) {
                 tell(random.nextInt(3) == 0 ? spoil(text()) : text());
             }
         }
@@ -68,10 +72,13 @@ public final class AgainstModelTest {
 
     private void act() {
         int which = random.nextInt(100);
+        if (onward && which > 65 && which < 80) {
+            which = random.nextInt(62);
+        }
         if (which < 40) {
             call("come", cls(), number(1, 64));
         } else if (which < 62) {
-            call("units", random.nextInt(3) == 0 ? number(1, 100) : number(1, 12));
+            call("units", random.nextInt(3) == 0 ? number(1, onward ? 40 : 100) : number(1, 12));
         } else if (which < 78) {
             int[] c = curve();
             call("change", cls(), number(0, 2), c[0], c[1], c[2]);
@@ -79,7 +86,7 @@ public final class AgainstModelTest {
             call("empty", cls());
         } else if (which < 86) {
             call("lift", cls(), number(0, 2));
-        } else if (which < 90) {
+        } else if (which < 90 || onward) {
             call("stop", number(0, 7));
         } else if (which < 95) {
             call("undo");
