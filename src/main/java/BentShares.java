@@ -1425,13 +1425,13 @@ public final class BentShares {
 
         int waitOf(int leaf) {
             later.copyFrom(line);
-            return waitOnLater(leaf);
+            return waitOnLater(leaf, FAR);
         }
 
-        private int waitOnLater(int leaf) {
+        private int waitOnLater(int leaf, int within) {
             int left = line.held[leaf];
-            int until = line.time + FAR;
-            for (int step = 0; step < FAR && later.time < until; step++) {
+            int until = line.time + within;
+            for (int step = 0; step < within && later.time < until; step++) {
                 int before = later.chosen;
                 later.advance(until - later.time);
                 if (later.chosen > before && later.last == leaf) {
@@ -1488,8 +1488,7 @@ public final class BentShares {
             for (int m = Curves.MOST_M; m >= 1; m--) {
                 later.copyFrom(line);
                 later.changeCurve(cls, UPPER, m, 0, m);
-                int wait = waitOnLater(leaf);
-                if (wait != NONE && wait <= units) {
+                if (waitOnLater(leaf, units + 1) != NONE) {
                     return m;
                 }
             }
