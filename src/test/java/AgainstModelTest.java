@@ -18,12 +18,15 @@ public final class AgainstModelTest {
     private final List<String> calls = new ArrayList<>();
     // In some runs nothing is taken back, so that much is laid and the time comes near its end.
     private final boolean onward;
+    // In some of these, packets are so small and rare that classes wake all the time, ahead of their curves' bends.
+    private final boolean light;
     private boolean broken = false;
 
     private AgainstModelTest(long seed) {
         // Seeds that are near one another begin alike.
         random = new Random(seed * 0x9E3779B97F4A7C15L);
         onward = random.nextInt(4) == 0;
+        light = onward && random.nextInt(2) == 0;
     }
 
     public static void main(String[] args) {
@@ -49,7 +52,7 @@ public final class AgainstModelTest {
 
     private void run() {
         if (random.nextInt(20) > 0) {
-            tell(text());
+            tell(light ? lightText() : text());
         }
         int many = onward ? 500 : 40 + random.nextInt(200);
         for (int i = 0; i < many && calls.size() < 500 && !broken; i++) {
@@ -72,11 +75,13 @@ public final class AgainstModelTest {
 
     private void act() {
         int which = random.nextInt(100);
-        if (onward && which > 65 && which < 80) {
+        if (light) {
+            which = random.nextInt(40) == 0 ? 70 : random.nextInt(62);
+        } else if (onward && which > 65 && which < 80) {
             which = random.nextInt(62);
         }
         if (which < 40) {
-            call("come", cls(), number(1, 64));
+            call("come", cls(), number(1, light ? 3 : 64));
         } else if (which < 62) {
             call("units", random.nextInt(3) == 0 ? number(1, onward ? 40 : 100) : number(1, 12));
         } else if (which < 78) {
@@ -244,6 +249,23 @@ public final class AgainstModelTest {
                 flows++;
                 text.append(flow(cls));
             }
+        }
+        return text.toString();
+    }
+
+    private String lightText() {
+        StringBuilder text = new StringBuilder("class;");
+        int classes = 1 + random.nextInt(4);
+        for (int cls = 0; cls < classes; cls++) {
+            text.append("class").append(random.nextBoolean() ? " in 0" : "");
+            String[] words = {" grant", " share", " upper"};
+            for (String word : words) {
+                int steep = random.nextInt(3);
+                text.append(word).append(' ').append(steep == 0 ? 0 : 20 + random.nextInt(81)).append(' ').append(random.nextInt(31))
+                        .append(' ').append(1 + random.nextInt(steep == 2 ? 10 : 100));
+            }
+            text.append(";flow ").append(cls + 1).append(' ').append(4 + random.nextInt(20)).append(' ').append(random.nextInt(4))
+                    .append(' ').append(1 + random.nextInt(2)).append(';');
         }
         return text.toString();
     }

@@ -216,6 +216,15 @@ public final class AheadTest {
         CHECK.illegal("24: too many units", () -> x.toShare(0, 1, 201));
         CHECK.is("24: the edges", x.toShare(0, 999, 200), NONE);
 
+        // By 100 its virtual time is 1 a byte, by 99 it is one ahead.
+        BentShares most = Checks.linked("class;class;");
+        for (int i = 0; i < 12; i++) {
+            most.come(0, 1);
+            most.come(1, 1);
+        }
+        CHECK.is("24: the most", most.toShare(0, 11, 12), 100);
+        CHECK.is("24: more than the most", most.toShare(0, 12, 12), NONE);
+
         // Changed is changed: what was laid with another slope is gone, even if the numbers stay.
         BentShares bent = two("class share 0 30 10;class;", 2, 2);
         bent.units(1);
@@ -242,6 +251,15 @@ public final class AheadTest {
         CHECK.illegal("25: too many units", () -> x.toCap(0, 1, 400));
         x.change(0, 2, 1, 0, 1);
         CHECK.is("25: in place of the one it has", x.toCap(0, 1, 30), 100);
+
+        // Capped by 1 the first one sends in unit 0 alone, by 2 also in 53, by 3 in 37 and 70.
+        BentShares tight = Checks.linked("class share 100 0 100;class;flow 0 1 0 1;");
+        for (int i = 0; i < 20; i++) {
+            tight.come(1, 4);
+        }
+        CHECK.is("25: the least cap", tight.toCap(0, 1, 77), 1);
+        CHECK.is("25: the next one", tight.toCap(0, 1, 78), 2);
+        CHECK.is("25: not even by the least", tight.toCap(0, 1, 76), NONE);
     }
 
     private static void promise26() {
