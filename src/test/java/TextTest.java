@@ -1,4 +1,4 @@
-/** Promises 1 to 4 and 34: a new object, the tape, the text and its faults, a class told again. */
+/** Promises 1 to 4 and 34: a new object, the tape, the text, a class told again; its faults stand in TextEdgesTest. */
 public final class TextTest {
     private static final Checks CHECK = new Checks();
     private static final int NONE = BentShares.NONE;
@@ -7,7 +7,6 @@ public final class TextTest {
         promise1();
         promise2();
         promise3Texts();
-        promise3Faults();
         promise3WhatStays();
         promise4();
         promise34();
@@ -59,64 +58,6 @@ public final class TextTest {
         CHECK.is("3: eight", Checks.linked("class;" + "flow 0 1 0 1;".repeat(8)).count(1), 8);
         CHECK.is("3: a flow may go to one with grant", Checks.linked("class grant 1 0 1;flow 0 5 4 3;").count(1), 1);
         CHECK.is("3: in a class in a class", Checks.linked("class;class in 0;class in 1;class in 2;").of(3, 0), 2);
-    }
-
-    private static void fault(String text, int code, int place) {
-        BentShares x = new BentShares();
-        CHECK.is("3: link '" + text + "'", Checks.link(x, text), code);
-        CHECK.is("3: place in '" + text + "'", x.fault(), place);
-    }
-
-    private static void promise3Faults() {
-        fault("clas;", 1, 0);
-        fault("Class;", 1, 0);
-        fault(" \n;", 1, 2);
-        fault("7", 1, 0);
-        fault("class", 1, 5);
-        fault("class ", 1, 6);
-        fault("class;flow 0 1 0 1", 1, 18);
-        fault("class;flow 0 1 0 1 1;", 1, 19);
-        fault("class in;", 1, 8);
-        fault("class;class in 0 in 0;", 1, 17);
-        fault("class share 1 1 1 in 0;", 1, 18);
-        fault("class class;", 1, 6);
-        fault("class flow;", 1, 6);
-        fault("class grant 1 1;", 1, 15);
-        fault("class grant 1 1 1 1;", 1, 18);
-        fault("class\t;", 1, 5);
-        fault("classes;", 1, 0);
-        fault("class; flow", 1, 11);
-        fault("class 5000;", 1, 6);
-        fault("class grant 101 0 1;", 2, 12);
-        fault("class grant 100 31 1;", 2, 16);
-        fault("class grant 100 30 101;", 2, 19);
-        fault("class grant 100 30 0;", 2, 19);
-        fault("class grant 0000 0 1;", 2, 12);
-        fault("class grant 1234567890123 0 1;", 2, 12);
-        fault("class;flow 0 0 0 1;", 2, 13);
-        fault("class;flow 0 201 0 1;", 2, 13);
-        fault("class;flow 0 1 200 1;", 2, 15);
-        fault("class;flow 0 1 0 0;", 2, 17);
-        fault("class;flow 0 1 0 65;", 2, 17);
-        fault("class;class in 12;", 2, 15);
-        fault("class;flow 12 1 0 1;", 2, 11);
-        fault("class;".repeat(13), 2, 72);
-        fault("class;" + "flow 0 1 0 1;".repeat(9), 2, 6 + 8 * 13);
-        fault("class;".repeat(12) + "class 9;", 2, 72);
-        fault("class in 0;", 3, 9);
-        fault("class in 11;", 3, 9);
-        fault("class;class in 1;", 3, 15);
-        fault("class grant 1 1 1;class in 0;", 3, 27);
-        fault("class;flow 0 1 0 1;class in 0;", 3, 28);
-        fault("flow 0 1 0 1;", 3, 5);
-        fault("class;class in 0;flow 0 1 0 1;", 3, 22);
-        fault("class share 1 1 1 share;", 5, 18);
-        fault("class upper 1 1 1 grant 1 1 1 upper 1 1 1;", 5, 30);
-        fault("class grant 1 1 1 share 1 1 1 upper 1 1 1 grant 1 1 1;", 5, 42);
-        // The first fault along the text counts, whatever its number.
-        fault("class in 0; class 1000", 3, 9);
-        fault("class share 1 1 1 share 1000 1 1;", 5, 18);
-        fault("class;class in 0 grant 999 9999 1;", 2, 23);
     }
 
     private static void promise3WhatStays() {
