@@ -456,6 +456,18 @@ public final class StateEdgesTest {
         CHECK.is("and one byte more", deadline("100 30 1", 31), 130);
     }
 
+    /** "M1 times as much .. as is D at the most": at a bend of 1.9 bytes the second byte is behind it, the first isn't. */
+    private static void promise9_theBendMissesAByte() {
+        BentShares x = Checks.linked("class upper 10 19 1;");
+        x.come(0, 1);
+        x.units(50);
+        x.come(0, 1);
+        x.units(2);
+        x.come(0, 1);
+        CHECK.is("2 bytes are sent", x.of(0, 3), 2);
+        CHECK.is("of those laid at (0, 0), (50, 1), (52, 2) the second reaches last", x.due(0, 2), 60);
+    }
+
     private static int eligibleBehind10(String curve) {
         BentShares x = Checks.linked("class grant " + curve + ";");
         Checks.comes(x, 0, 10, 1);
